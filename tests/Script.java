@@ -1,0 +1,144 @@
+import java.lang.reflect.InvocationTargetException;
+import java.lang.reflect.Method;
+import java.util.HashMap;
+import java.util.Map;
+
+/** Calls on one object, written as they stand in the document, each held against the answer that is due. */
+final class Script {
+    private static final Map<String, Method> FACE = new HashMap<>();
+    private static int calls = 0;
+    private static int wrong = 0;
+
+    static {
+        for (Method method : KiteTaxes.class.getMethods()) {
+            if (method.getDeclaringClass() == KiteTaxes.class) {
+                FACE.put(method.getName(), method);
+            }
+        }
+    }
+
+    private final KiteTaxes x = new KiteTaxes();
+    private final String name;
+
+    private Script(String name) {
+        this.name = name;
+    }
+
+    static Script fresh(String name) {
+        return new Script(name);
+    }
+
+    /** An object with a PARISH that is read from TEXT 3 (which then is missing from no count). */
+    static Script parish(String name, String text) {
+        Script script = new Script(name);
+        script.write(3, text);
+        int kites = text.replaceAll("[^khcbjs]", "").length();
+        return script.due("parish(3)", kites);
+    }
+
+    Script write(int t, String text) {
+        x.text(t, text.length());
+        for (int i = 0; i < text.length(); i++) {
+            x.put(t, i, text.charAt(i));
+        }
+        return this;
+    }
+
+    /** A ROW is made with these ints. */
+    Script rowOf(int r, int... ints) {
+        x.row(r, ints.length);
+        for (int i = 0; i < ints.length; i++) {
+            x.lay(r, i, ints[i]);
+        }
+        return this;
+    }
+
+    Script due(String call, long want) {
+        calls++;
+        String got;
+        try {
+            got = String.valueOf(answer(x, call));
+        } catch (InvocationTargetException e) {
+            got = "with " + e.getCause();
+        }
+        if (!got.equals(String.valueOf(want))) {
+            wrong(call + " answered " + got + ", due is " + want);
+        }
+        return this;
+    }
+
+    /** A call that answers 1 and tells by asked(). */
+    Script told(String call, long want) {
+        return due(call, 1).due("asked()", want);
+    }
+
+    Script chance(String call, long upper, long lower) {
+        return due(call, 1).due("upper()", upper).due("lower()", lower);
+    }
+
+    /** A call that is refused with a FINDING. */
+    Script finds(String call, int finding) {
+        return due(call, -3).due("finding()", finding);
+    }
+
+    /** What a ROW holds, its size too. */
+    Script holds(int r, int... ints) {
+        for (int i = 0; i < ints.length; i++) {
+            told("at(" + r + ", " + i + ")", ints[i]);
+        }
+        return finds("at(" + r + ", " + ints.length + ")", 2);
+    }
+
+    /** The call is refused with that answer and changes nothing that is told. */
+    Script refused(String call, long want) {
+        long digest = x.digest();
+        int asked = x.asked();
+        long upper = x.upper();
+        long lower = x.lower();
+        due(call, want);
+        if (x.digest() != digest || x.asked() != asked || x.upper() != upper || x.lower() != lower) {
+            wrong(call + " was refused and changed something");
+        }
+        return this;
+    }
+
+    long digest() {
+        return x.digest();
+    }
+
+    private void wrong(String what) {
+        wrong++;
+        System.out.println(name + ": " + what);
+    }
+
+    static long answer(Object on, String call) throws InvocationTargetException {
+        int open = call.indexOf('(');
+        String inside = call.substring(open + 1, call.length() - 1).trim();
+        String[] parts = inside.isEmpty() ? new String[0] : inside.split(",");
+        Object[] arguments = new Object[parts.length];
+        for (int i = 0; i < parts.length; i++) {
+            arguments[i] = Integer.parseInt(parts[i].trim());
+        }
+        Method method = FACE.get(call.substring(0, open));
+        try {
+            return ((Number) method.invoke(on, arguments)).longValue();
+        } catch (IllegalAccessException e) {
+            throw new IllegalStateException(call, e);
+        }
+    }
+
+    static void check(String what, boolean holds) {
+        calls++;
+        if (!holds) {
+            wrong++;
+            System.out.println(what + " does not hold");
+        }
+    }
+
+    static void end() {
+        System.out.println(calls + " calls, " + wrong + " wrong");
+        if (wrong != 0) {
+            System.exit(1);
+        }
+    }
+}
