@@ -72,6 +72,11 @@ final class Script {
         return due(call, 1).due("asked()", want);
     }
 
+    /** A call that answers and tells by asked(), too. */
+    Script answers(String call, long want, long asked) {
+        return due(call, want).due("asked()", asked);
+    }
+
     Script chance(String call, long upper, long lower) {
         return due(call, 1).due("upper()", upper).due("lower()", lower);
     }
@@ -100,6 +105,14 @@ final class Script {
             wrong(call + " was refused and changed something");
         }
         return this;
+    }
+
+    long read(String call) {
+        try {
+            return answer(x, call);
+        } catch (InvocationTargetException e) {
+            throw new IllegalStateException(call, e);
+        }
     }
 
     long digest() {
