@@ -8,6 +8,7 @@ public final class ChanceTests {
         mid();
         chancesRefused();
         lots();
+        manyLots();
         lotsOfOneKite();
         lotsRefused();
         Script.end();
@@ -23,6 +24,9 @@ public final class ChanceTests {
         // who is LIFTED PAYS nothing: the flyer has that one flown
         Script u = Script.parish("promise 33, LIFTED", "w069000k820k490");
         u.due("duel(2)", 0).due("fly(1)", 0).due("duel(1)", 0).due("duel(2)", 0).due("count(2)", 1);
+        // a LIFTED one that is flown for nothing can't be flown later
+        Script.parish("promise 33, LIFTED, spoilt", "w092000k820").due("duel(3)", 0);
+        Script.parish("promise 33, six turns", "w537100k490k890k990b390k590j690").due("duel(6)", 61).due("duel(5)", 61).due("duel(4)", 50).due("duel(3)", 50).due("duel(2)", 22).due("duel(1)", 22);
         Script.parish("promise 33, flown, paid", "w222200k490k890k990").due("fly(2)", 9).due("duel(1)", 8).due("duel(3)", 12).due("duel(6)", 12);
     }
 
@@ -76,6 +80,13 @@ public final class ChanceTests {
         // the second goes to number 2, the third to number 0 (again, an even number), the fourth to 239340079 % 3
         s.due("undo(0)", 1).due("lots(3, 1)", 4).due("count(4)", 5).due("count(2)", 3).due("count(1)", 2).told("kite(0, 3)", 1);
         s.due("undo(0)", 3).due("lots(6, 1)", 12).due("count(4)", 7).due("count(2)", 6);
+    }
+
+    private static void manyLots() {
+        Script s = Script.parish("promise 36, many", "w269430k861h982c650b492j970s513").due("lots(20, 4711)", 32).due("count(1)", 13).due("count(4)", 63);
+        s.told("kite(0, 3)", 3).told("kite(1, 3)", 2).told("kite(2, 3)", 3).told("kite(3, 3)", 3).told("kite(4, 3)", 1).due("undo(0)", 20);
+        s.due("lots(12, 99)", 57).due("count(1)", 10).due("undo(0)", 12).due("lots(20, 12345)", 13).due("count(4)", 61).due("count(1)", 15);
+        s.told("kite(0, 3)", 2).told("kite(1, 3)", 2).told("kite(2, 3)", 1).told("kite(3, 3)", 3).told("kite(4, 3)", 2);
     }
 
     private static void lotsOfOneKite() {

@@ -40,6 +40,9 @@ public final class CrossingTests {
         Script.parish("promise 29, odd", "w000000k103k990k490").due("merge(9, 0)", 61).holds(0, NONE, 2, 1).due("merge(0, 0)", 0).holds(0, NONE, 2, 1);
         Script.parish("promise 29, odd, the last left", "w000000k990k490k103").due("merge(9, 0)", 61).holds(0, 1, 0, NONE);
         Script.parish("promise 29, odd, the least left", "w000000k990k290k490k390k890").due("merge(2, 0)", 4 + 8 + 3 + 9 + 3 + 3).holds(0, 2, NONE, 0, 4, 3);
+        Script t = Script.parish("promise 29, six, then fewer", "w000000k990k990k990k990k990k990").due("merge(9, 0)", 249);
+        t.write(0, "w000000k490k490k490").due("parish(0)", 3).due("merge(2, 0)", 11).holds(0, NONE, 2, 1);
+        t.write(0, "w000000k490k490").due("parish(0)", 2).due("merge(2, 0)", 11).holds(0, 1, 0);
         Script.parish("promise 29, two", "w000000j100j100").due("merge(0, 5)", 5).holds(5, 1, 0);
         Script.parish("promise 29, one", "w000000k990").rowOf(2, 1, 2, 3).due("merge(9, 2)", 0).holds(2, NONE);
     }

@@ -68,6 +68,7 @@ public final class DeedTests {
         s.due("fly(0)", 25).due("cut(1)", 1).due("count(6)", 25).due("on(1)", 3).due("count(6)", 0).due("count(5)", 2).due("count(1)", 2);
         s.told("kite(0, 3)", 1).told("kite(1, 3)", 2).told("kite(0, 6)", NONE).due("undo(0)", 3).told("kite(0, 3)", 0).due("on(1)", 3).told("kite(0, 3)", 1);
         s.due("fly(0)", 25).due("on(0)", 0).due("count(4)", 0).told("kite(0, 3)", 0).due("count(10)", 2).due("rest()", 1).due("keep(0)", 1).due("on(0)", 1).due("count(1)", 1);
+        s.due("undo(0)", 1).due("tie(0)", 1).due("tie(0)", 2).due("fly(2)", 0).due("on(1)", 3).due("undo(2)", 1).told("kite(0, 3)", 0).due("undo(1)", 1).due("count(1)", 1).due("count(4)", 2);
         s.due("on(1)", 3).due("keep(2)", 3).due("count(10)", 3).due("undo(1)", 2).due("on(2)", 3).due("count(2)", 3);
     }
 

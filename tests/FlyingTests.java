@@ -21,6 +21,7 @@ public final class FlyingTests {
         // k8 with TAIL 1: 6, 22, 0, 14; k4: 4, 12, 0, 8
         s.due("most(0, 0)", 0).holds(0).due("most(1, 0)", 6).holds(0, 0).due("most(2, 1)", 26).holds(1, 1, 0);
         s.due("most(3, 1)", 26).holds(1, 1, 0, NONE).due("most(4, 1)", 30).holds(1, NONE, 0, NONE, 1).due("most(5, 1)", 30).holds(1, NONE, 0, NONE, 1, NONE);
+        s.due("most(2, 1)", 26).holds(1, 1, 0).due("duel(6)", s.read("duel(5)")).due("most(3, 1)", 26).due("most(0, 1)", 0).holds(1);
         s.due("count(1)", 0).due("count(2)", 0).due("count(6)", 0).due("fly(0)", 6).due("most(1, 2)", 12).holds(2, 1).due("most(4, 2)", 12).holds(2, 1, NONE, NONE, NONE);
         s.due("fly(1)", 12).due("most(3, 2)", 0).holds(2, NONE, NONE, NONE).due("count(6)", 18);
         s.rowOf(3, 1, 2, 3, 4, 5, 6, 7, 8).due("most(1, 3)", 0).holds(3, NONE);

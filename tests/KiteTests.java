@@ -87,8 +87,8 @@ public final class KiteTests {
     }
 
     private static void markStringless() {
-        Script s = Script.parish("promise 13, 5", "w000000s900s990s190s340");
-        s.due("mark(0, 5)", 1).due("mark(1, 5)", 7).due("mark(2, 5)", NONE).due("mark(3, 5)", 6);
+        Script s = Script.parish("promise 13, 5", "w000000s900s990s190s340s470");
+        s.due("mark(0, 5)", 1).due("mark(1, 5)", 7).due("mark(2, 5)", NONE).due("mark(3, 5)", 6).due("mark(4, 5)", 9);
     }
 
     private static void markRefused() {

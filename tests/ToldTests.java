@@ -34,6 +34,7 @@ public final class ToldTests {
         s.due("count(0)", 5).due("count(1)", 0).due("count(3)", 2).due("count(7)", 77).due("count(8)", 0).due("count(9)", 1).due("count(10)", 0).due("count(11)", 2);
         s.due("fly(1)", 4).due("fly(0)", 0).due("rest()", 3).due("tie(3)", 2).due("keep(1)", 4).rowOf(2).rowOf(4, 1);
         s.due("count(1)", 3).due("count(2)", 4).due("count(3)", 4).due("count(4)", 3).due("count(5)", 1).due("count(6)", 4).due("count(8)", 2).due("count(10)", 1);
+        Script.parish("promise 40, BOXES", "w000000b100k100s100").due("count(11)", 2);
         s.due("rest()", 4).due("count(3)", 2).due("cut(0)", -4).due("count(5)", 1).due("text(0, 0)", 0).due("count(9)", 2);
         s.refused("count(12)", -1).refused("count(-1)", -1).refused("count(2147483647)", -1).refused("count(-2147483648)", -1);
     }
