@@ -97,7 +97,7 @@ public final class ModelTests {
             text.append(lots.nextInt(3) == 0 ? lots.nextInt(10) : 4 + lots.nextInt(6)).append(lots.nextInt(4));
         }
         if (lots.nextInt(4) == 0) {
-            text.setCharAt(lots.nextInt(text.length()), "wk09 4s".charAt(lots.nextInt(7)));
+            text.setCharAt(lots.nextInt(text.length()), "wk09 4s:/".charAt(lots.nextInt(9)));
         }
         int t = lots.nextInt(4);
         int size = Math.min(60, text.length() + lots.nextInt(3) - (lots.nextInt(6) == 0 ? 2 : 0));

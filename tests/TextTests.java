@@ -57,6 +57,12 @@ public final class TextTests {
         faulty("w12345", 6);
         faulty("w12 3456k100", 3);
         faulty("w1234 56k100", 5);
+        faulty("w:23456k100", 1);
+        faulty("w/23456k100", 1);
+        faulty("w1:3456k100", 2);
+        faulty("w123:56k100", 4);
+        faulty("w1234:6k100", 5);
+        faulty("w1234/6k100", 5);
         faulty("w12345:k100", 6);
         faulty("w12345/k100", 6);
         faulty("w123456", 7);
@@ -68,6 +74,9 @@ public final class TextTests {
         faulty("w123456k:00", 8);
         faulty("w123456k1", 9);
         faulty("w123456k1x0", 9);
+        faulty("w123456k1:0", 9);
+        faulty("w123456k1/0", 9);
+        faulty("w123456k19/", 10);
         faulty("w123456k19", 10);
         faulty("w123456k194", 10);
         faulty("w123456k1903", 11);
