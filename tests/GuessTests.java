@@ -39,8 +39,8 @@ public final class GuessTests {
     }
 
     private static void refused() {
-        Script s = Script.parish("promises 30 to 32, refused", "w000000k891");
         for (String call : new String[] {"tails", "kinds", "test"}) {
+            Script s = Script.parish("promises 30 to 32, refused: " + call, "w000000k891");
             s.due("row(1, 0)", 0).due("tear(1)", 1).refused(call + "(0, 1)", -3).finds(call + "(0, 1)", NOTHING);
             s.refused(call + "(1, 1)", -1).refused(call + "(-1, 1)", -1).refused(call + "(0, 6)", -1).refused(call + "(0, -1)", -1);
             s.rowOf(1, 3).refused(call + "(0, 1)", -3).finds(call + "(0, 1)", SIZE).rowOf(1, -3, 3, 3).finds(call + "(0, 1)", SIZE);

@@ -92,10 +92,10 @@ public final class KiteTests {
     }
 
     private static void markRefused() {
-        Script s = Script.parish("promise 13, refused", "w000000k100h100c100b100j100s100");
         int[] own = {0, 1, 2, 3, 4, 5};
         int[] above = {0, 0, 0, 0, 1, 3};
         for (int i : own) {
+            Script s = Script.parish("promise 13, refused, KIND " + i, "w000000k100h100c100b100j100s100");
             for (int kind = 1; kind <= 5; kind++) {
                 if (kind != i && kind != above[i]) {
                     s.refused("mark(" + i + ", " + kind + ")", -3).finds("mark(" + i + ", " + kind + ")", UNLIKE);
@@ -103,6 +103,7 @@ public final class KiteTests {
             }
             s.refused("mark(" + i + ", 0)", -1).refused("mark(" + i + ", 6)", -1).refused("mark(" + i + ", -1)", -1);
         }
+        Script s = Script.parish("promise 13, refused, no such KITE", "w000000k100h100c100b100j100s100");
         s.refused("mark(6, 1)", -1).refused("mark(-1, 1)", -1);
     }
 

@@ -1,5 +1,6 @@
 import java.lang.reflect.InvocationTargetException;
 import java.lang.reflect.Method;
+import java.util.Arrays;
 import java.util.HashMap;
 import java.util.Map;
 
@@ -17,8 +18,12 @@ final class Script {
         }
     }
 
-    private final KiteTaxes x = new KiteTaxes();
+    // what later calls answer is free
+    private static final int CALLS_OF_AN_OBJECT = 512;
+
+    private final KiteTaxes object = new KiteTaxes();
     private final String name;
+    private int used = 0;
 
     private Script(String name) {
         this.name = name;
@@ -37,18 +42,18 @@ final class Script {
     }
 
     Script write(int t, String text) {
-        x.text(t, text.length());
+        x().text(t, text.length());
         for (int i = 0; i < text.length(); i++) {
-            x.put(t, i, text.charAt(i));
+            x().put(t, i, text.charAt(i));
         }
         return this;
     }
 
     /** A ROW is made with these ints. */
     Script rowOf(int r, int... ints) {
-        x.row(r, ints.length);
+        x().row(r, ints.length);
         for (int i = 0; i < ints.length; i++) {
-            x.lay(r, i, ints[i]);
+            x().lay(r, i, ints[i]);
         }
         return this;
     }
@@ -57,7 +62,7 @@ final class Script {
         calls++;
         String got;
         try {
-            got = String.valueOf(answer(x, call));
+            got = String.valueOf(answer(x(), call));
         } catch (InvocationTargetException e) {
             got = "with " + e.getCause();
         }
@@ -94,29 +99,66 @@ final class Script {
         return finds("at(" + r + ", " + ints.length + ")", 2);
     }
 
-    /** The call is refused with that answer and changes nothing that is told. */
+    /** The call is refused with that answer and changes nothing that is told, but findings by a FINDING. */
     Script refused(String call, long want) {
-        long digest = x.digest();
-        int asked = x.asked();
-        long upper = x.upper();
-        long lower = x.lower();
+        long digest = x().digest();
+        long[] before = asides();
         due(call, want);
-        if (x.digest() != digest || x.asked() != asked || x.upper() != upper || x.lower() != lower) {
+        long[] after = asides();
+        if (want == KiteTaxes.FINDING && after[0] >= 1 && after[0] <= 5) {
+            before[0] = after[0];
+            before[(int) after[0]]++;
+        }
+        if (x().digest() != digest || !Arrays.equals(before, after)) {
             wrong(call + " was refused and changed something");
         }
         return this;
     }
 
+    /** The call answers and changes nothing of the ROWS, the TEXTS, the PARISH and those kept. */
+    Script aside(String call, long want) {
+        long digest = x().digest();
+        due(call, want);
+        if (x().digest() != digest) {
+            wrong(call + " is aside and changed something");
+        }
+        return this;
+    }
+
+    /** The call answers and changes nothing of those but ROW r, which is missing then. */
+    Script asideBut(int r, String call, long want) {
+        x().tear(r);
+        long digest = x().digest();
+        due(call, want);
+        if (x().tear(r) != 1 || x().digest() != digest) {
+            wrong(call + " changed more than ROW " + r);
+        }
+        return this;
+    }
+
+    /** What the digest leaves out: the latest FINDING, how many of each, what was told. */
+    private long[] asides() {
+        return new long[] {x().finding(), x().findings(1), x().findings(2), x().findings(3), x().findings(4), x().findings(5), x().asked(), x().upper(), x().lower()};
+    }
+
     long read(String call) {
         try {
-            return answer(x, call);
+            return answer(x(), call);
         } catch (InvocationTargetException e) {
             throw new IllegalStateException(call, e);
         }
     }
 
     long digest() {
-        return x.digest();
+        return x().digest();
+    }
+
+    private KiteTaxes x() {
+        used++;
+        if (used == CALLS_OF_AN_OBJECT + 1) {
+            wrong("the test makes more than 512 calls on one object");
+        }
+        return object;
     }
 
     private void wrong(String what) {
