@@ -169,6 +169,7 @@ public final class BoundsOfPlansTests {
         Script.parish("promise 29: three, the third is left", "w000000k290k490k190").due("merge(2, 0)", 2 + 4 + 3).holds(0, 1, 0, NONE);
         Script.parish("promise 29: five, the last is left", "w000000k290k490k290k490k190").due("merge(2, 0)", 12 + 6).holds(0, 1, 0, 3, 2, NONE);
         Script.parish("promise 29: six, none is left", "w000000k290k490k290k490k190k190").due("merge(2, 0)", 14 + 9).holds(0, 1, 0, 3, 2, 5, 4);
+        Script.parish("promise 29: one is left, behind a merger of six", "w000000k990k990k990k990k990k990").due("merge(9, 0)", 249).write(0, "w000000k990").due("parish(0)", 1).due("merge(9, 0)", 0).holds(0, NONE);
         Script.parish("promise 29: WINDS 0 .. 9", "w000000k290j190").due("merge(0, 0)", 1).due("merge(9, 0)", 9 + 1 + 3);
         Script.parish("promise 29: a ROW (anew)", "w000000k190k290").due("row(2, 40)", 40).due("merge(2, 2)", 6).holds(2, 1, 0);
     }
@@ -177,6 +178,7 @@ public final class BoundsOfPlansTests {
         Script.parish("promise 29: the first: NONE least", "w000000k190k190k190").due("merge(2, 0)", 5).holds(0, NONE, 2, 1);
         Script.parish("promise 29: the first, rising", "w000000k190k190k190k190").due("merge(2, 0)", 10).holds(0, 1, 0, 3, 2);
         Script.parish("promise 29: the first, all LIFT nothing", "w000000k190k190k190k190k190k190").due("merge(0, 0)", 0).holds(0, 1, 0, 3, 2, 5, 4);
+        Script.parish("promise 29: most ahead of the first, the outer two", "w000000k190k103k103k190").due("merge(2, 0)", 5).holds(0, 3, 2, 1, 0);
         Script.parish("promise 29: most ahead of the first", "w000000k190k103k190k103").due("merge(2, 0)", 5).holds(0, 2, 3, 0, 1);
     }
 
