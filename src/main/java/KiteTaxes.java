@@ -954,36 +954,36 @@ public final class KiteTaxes {
         }
 
         int liftAs(int someKind, int someTail, int wind) {
+            int half = wide * wind / 2;
+            int plain = half > 2 * someTail ? half - 2 * someTail : 0;
+            int box = wind >= 3 ? half + 2 : half;
             switch (someKind) {
                 case HANDKERCHIEF:
-                    return plainLift(someTail, wind) / 3;
+                    return plain / 3;
                 case CHILDS:
-                    return wind > 6 ? 0 : plainLift(someTail, wind) / 2;
+                    return wind > 6 ? 0 : plain / 2;
                 case BOX:
-                    return boxLift(wind);
+                    return box;
                 case JUDGES:
-                    return Math.max(1, plainLift(someTail, wind) / 3);
+                    return plain < 3 ? 1 : plain / 3;
                 case STRINGLESS:
-                    return boxLift(wind) + wind;
+                    return box + wind;
                 default:
-                    return plainLift(someTail, wind);
+                    return plain;
             }
         }
 
-        private int plainLift(int someTail, int wind) {
-            return Math.max(0, wide * wind / 2 - 2 * someTail);
-        }
-
-        private int boxLift(int wind) {
-            return plainLift(0, wind) + (wind >= 3 ? 2 : 0);
-        }
-
         boolean isLiftedIn(int wind) {
-            return liftIn(wind) > 4 * heavy;
+            return isTooMuch(liftIn(wind));
         }
 
         int payIn(int wind) {
-            return isLiftedIn(wind) ? 0 : liftIn(wind);
+            int lift = liftIn(wind);
+            return isTooMuch(lift) ? 0 : lift;
+        }
+
+        private boolean isTooMuch(int lift) {
+            return lift > 4 * heavy;
         }
     }
 
@@ -1215,7 +1215,7 @@ public final class KiteTaxes {
         }
 
         private int sign(Row text) {
-            return text.holds(place) ? text.get(place) : NO_SIGN;
+            return text.holds(place) ? text.places[place] : NO_SIGN;
         }
 
         private static int kindOf(int letter) {
